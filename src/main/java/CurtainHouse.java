@@ -337,7 +337,7 @@ public final class CurtainHouse {
         if (!isWithin(n, 0, MOST_TIE)) {
             return find(BEYOND);
         }
-        boolean canBeMore = house.fire == 0 && house.cut < MOST_CUT;
+        boolean canBeMore = house.cut < MOST_CUT;
         int set = 0;
         for (int c = 0; canBeMore && c < house.hung; c++) {
             probe.take(house.curtains[c]);

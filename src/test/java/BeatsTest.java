@@ -50,7 +50,8 @@ public final class BeatsTest {
         Due.due("z", x.count(6) != 1 ? 1 : 0, 1);
         Due.due("evening(21), BEYOND first", x.evening(21), Due.BEYOND);
         Due.due("go(61), BEYOND first", x.go(61), Due.BEYOND);
-        Due.due("go(19)", x.go(19) >= 0 ? 1 : 0, 1);
+        Due.due("go(18)", x.go(18) >= 0 ? 1 : 0, 1);
+        Due.due("evening(1), to the last BEAT", x.evening(1) >= 0 ? 1 : 0, 1);
         Due.due("BEAT", x.now(0), 99999);
         Due.due("go(1)", x.go(1), Due.STATE);
         Due.due("evening(1)", x.evening(1), Due.STATE);
@@ -217,6 +218,11 @@ public final class BeatsTest {
         x = Due.house("drop mood 57 likes 20;drop mood 58 likes 20;scene 3 0;scene 5 0");
         Due.due("down(0)", x.down(0), 200);
         Due.due("down(1)", x.down(1), Due.NONE);
+        // The same, a BEAT later: 19 behind BEAT 201.
+        x = Due.house("drop mood 59 likes 20;scene 1 0;scene 2 1;scene 3 2;scene 4 0;scene 5 4");
+        Due.due("down(0)", x.down(0), Due.NONE);
+        x.go(1);
+        Due.due("down(0)", x.down(0), 200);
     }
 
     private static void up() {
@@ -245,6 +251,14 @@ public final class BeatsTest {
         Due.due("weary(2, 0)", x.weary(2, 0), Due.BEYOND);
         Due.due("weary(-1, 0)", x.weary(-1, 0), Due.BEYOND);
         Due.due("MOOD", x.of(0, 1), 60);
+        x.change(1, 1, 7);
+        x.change(1, 4, 1);
+        Due.due("weary(1, 0)", x.weary(1, 0), 2);
+        x.change(1, 1, 0);
+        Due.due("weary(1, 0)", x.weary(1, 0), 0);
+        x = Due.house("drop likes 20 tied;scene 1 0;scene 2 1;scene 3 2;scene 4 0;scene 5 4");
+        Due.due("weary(0, 20), 201", x.weary(0, 20), Due.NONE);
+        Due.due("weary(0, 21)", x.weary(0, 21), 195);
     }
 
     private static void saved() {

@@ -82,11 +82,24 @@ public final class ImagesTest {
         Due.due("undo() to the latest", x.undo(), 2);
         x.go(5);
         Due.due("undo() again", x.undo(), 2);
+        newAgain(x, true);
+        newAgain(x, false);
+    }
+
+    /** A CURTAIN that undo() took away leaves nothing to the next one of its number. */
+    private static void newAgain(CurtainHouse x, boolean byText) {
         x.curtain(6, 5);
+        for (int what = 0; what < 6; what++) {
+            x.change(0, what, 1);
+        }
         Due.due("undo()", x.undo(), 2);
-        Due.due("a new CURTAIN again", x.curtain(2, 0), 0);
-        Due.due("of(0, 0)", x.of(0, 0), 2);
-        Due.due("of(0, 2)", x.of(0, 2), 0);
+        Due.due("count(1)", x.count(1), 0);
+        Due.due("a new CURTAIN again", byText ? Due.read(x, "gauze") - 1 : x.curtain(2, 0), 0);
+        int[] first = {2, 60, 0, 20, 0, 0};
+        for (int what = 0; what < 6; what++) {
+            Due.due("of(0, " + what + ")", x.of(0, what), first[what]);
+        }
+        x.undo();
     }
 
     private static void tear() {

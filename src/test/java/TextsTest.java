@@ -121,6 +121,8 @@ public final class TextsTest {
         fault("fire 1", 5);
         fault("fires", 0);
         fault("fir", 0);
+        fault("dire", 0);
+        fault("fird", 0);
         fault("Fire", 0);
         fault("fire.", 4);
         fault("fire\tout", 4);
