@@ -13,6 +13,7 @@ final class Due {
 
     private static int asked;
     private static int wrong;
+    private static String subject = "";
 
     private Due() {
     }
@@ -22,9 +23,14 @@ final class Due {
         if (got != want) {
             wrong++;
             if (wrong <= MOST_SHOWN) {
-                System.out.println(call + " answered " + got + ", due is " + want);
+                System.out.println(subject + call + " answered " + got + ", due is " + want);
             }
         }
+    }
+
+    /** What the answers from now on are about; it is printed ahead of those that differ. */
+    static void about(String words) {
+        subject = words + ": ";
     }
 
     /** Feeds a whole text, byte by byte. */
