@@ -65,23 +65,30 @@ public final class PlayBoundsTest {
         Due.due("sceneFor(4, 6), the last of a round", x.sceneFor(4, 6), 11);
     }
 
+    /** What trying all twelve SCENES out, by calls that change, comes to. */
+    private static int triedScene(CurtainHouse x, int i, int n) {
+        x.image();
+        int best = -1;
+        int least = MAX;
+        for (int scene = 0; scene < 12; scene++) {
+            x.scene(i, scene);
+            int cut = x.go(n);
+            best = cut < least ? scene : best;
+            least = Math.min(least, cut);
+            x.undo();
+        }
+        return best;
+    }
+
     private static void sceneForSixtyBeats() {
         Doc.says(17, "behind n (0 to 60) BEATS.");
         for (int i = 0; i < 6; i++) {
             CurtainHouse x = Due.house(MIXED);
-            int asked = x.sceneFor(i, 60);
-            x.image();
-            int best = -1;
-            int least = MAX;
-            for (int scene = 0; scene < 12; scene++) {
-                x.scene(i, scene);
-                int cut = x.go(60);
-                best = cut < least ? scene : best;
-                least = Math.min(least, cut);
-                x.undo();
-            }
-            Due.due("sceneFor(" + i + ", 60)", asked, best);
+            Due.due("sceneFor(" + i + ", 60)", x.sceneFor(i, 60), triedScene(x, i, 60));
         }
+        // A SCENE behind the last, which nobody LIKES, would cut less than all twelve here.
+        CurtainHouse x = Due.house("drop mood 0 likes 1919 high 0;scene 0 11;scene 1 2;scene 2 5;scene 4 0;scene 5 3");
+        Due.due("sceneFor(4, 27), one of the twelve", x.sceneFor(4, 27), triedScene(x, 4, 27));
     }
 
     private static void sceneForBeyond() {
